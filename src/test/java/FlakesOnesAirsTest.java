@@ -192,10 +192,7 @@ public final class FlakesOnesAirsTest {
         String[] texts = {"", "c", "d", "<", ">", ".", "A<", "F>", "Bu", "cd<>.A<B>Cu", "A", "cA", "u", "a", "G", "@", "AA", "A.",
             "Ac", "Bd", "c?A", "A<B", "A<B!", "C", "D", "Au<u", "<A>>u", "AU", "F"};
         int[] faults = {-6, -6, -6, -6, -6, -6, -6, -6, -6, -6, 1, 2, 0, 0, 0, 0, 1, 1,
-            1, 1, 1, 3, 3, 0, 0, 3, 4, 1, 1};
-        // 'C' and 'D' alone are letters of ONES: more must come.
-        faults[23] = 1;
-        faults[24] = 1;
+            1, 1, 1, 3, 3, 1, 1, 3, 4, 1, 1};
         FlakePost post = new FlakePost();
         for (int i = 0; i < texts.length; i++) {
             Due.pad(post, texts[i]);
