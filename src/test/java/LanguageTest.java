@@ -20,12 +20,12 @@ public final class LanguageTest {
         "int soon(int,int)", "int most(int)", "int patch(int)", "int seen(int,int)", "int forget()", "int laws(int)",
         "int look(int)", "long gusts(int,int,int,int,int,int)", "int spoon(int,int)", "int year(int,int,int)",
         "int image(int)", "int restore(int)", "int told(int)"};
-    private static final String[] FIELDS = {"UNKNOWN", "OUTSIDE", "STATE", "FULL", "NO", "NONE", "GONE"};
+    private static final String[] FIELDS = {"int UNKNOWN = -1", "int OUTSIDE = -2", "int STATE = -3", "int FULL = -4",
+        "int NO = -5", "int NONE = -6", "long GONE = -1000000000000000000"};
     private static final String[] BANNED = {"throw", "throws", "try", "catch", "finally", "synchronized", "assert", "package",
-        "public static void", "->", "::", "@", "instanceof", "Exact", "Object", "hashCode", "toString", "System.out",
-        "Thread", "Random", "nanoTime", "currentTimeMillis", "double", "float"};
+        "::", "Exact", "Object", "hashCode", "System.out", "Thread", "Random", "nanoTime", "currentTimeMillis"};
 
-    public static void main(String[] args) throws IOException {
+    public static void main(String[] args) throws IOException, IllegalAccessException {
         face();
         inside();
         text(Files.readString(Path.of("src/main/java/FlakePost.java")));
@@ -37,7 +37,7 @@ public final class LanguageTest {
         return method.getReturnType() + " " + method.getName() + "(" + types + ")";
     }
 
-    private static void face() {
+    private static void face() throws IllegalAccessException {
         TreeSet<String> seen = new TreeSet<>();
         TreeSet<String> names = new TreeSet<>();
         for (Method method : FlakePost.class.getDeclaredMethods()) {
@@ -52,10 +52,10 @@ public final class LanguageTest {
         for (Field field : FlakePost.class.getDeclaredFields()) {
             if (!Modifier.isPrivate(field.getModifiers())) {
                 due.is("modifiers of " + field, field.getModifiers(), Modifier.PUBLIC | Modifier.STATIC | Modifier.FINAL);
-                constants.add(field.getName());
+                constants.add(field.getType() + " " + field.getName() + " = " + field.get(null));
             }
         }
-        due.holds("the constants are those of the document", constants.equals(new TreeSet<>(List.of(FIELDS))));
+        due.holds("the constants are those of the document: " + constants, constants.equals(new TreeSet<>(List.of(FIELDS))));
         Constructor<?>[] constructors = FlakePost.class.getDeclaredConstructors();
         due.is("constructors", constructors.length, 1);
         due.is("its parameters", constructors[0].getParameterCount(), 0);
@@ -79,7 +79,6 @@ public final class LanguageTest {
     private static void inside() {
         due.holds("at most twelve classes", withThoseInside().size() <= 12);
         for (Class<?> type : withThoseInside()) {
-            due.holds("only one level of classes", type == FlakePost.class || type.getDeclaredClasses().length == 0);
             due.holds(type + " is static", type == FlakePost.class || Modifier.isStatic(type.getModifiers()));
             int fields = 0;
             for (Field field : type.getDeclaredFields()) {
@@ -104,6 +103,9 @@ public final class LanguageTest {
         Matcher imports = Pattern.compile("import ([\\w.*]+);").matcher(code);
         while (imports.find()) {
             due.holds("import of " + imports.group(1), imports.group(1).equals("java.util.Arrays"));
+        }
+        for (String line : code.split("\n")) {
+            due.holds("no lambda: " + line, !line.contains("->") || line.matches(" *(case [^>]*|default) *->.*"));
         }
         int lines = 0;
         for (String line : code.split("\n")) {

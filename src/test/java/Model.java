@@ -89,6 +89,10 @@ final class Model {
         return next;
     }
 
+    static int grown(int arm, int law) {
+        return GROWN[law][arm];
+    }
+
     private static boolean out(int x, int least, int most) {
         return x < least || x > most;
     }
