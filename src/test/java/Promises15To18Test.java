@@ -39,8 +39,8 @@ public final class Promises15To18Test {
             air(0, 170); air(1, 204); grew(1, 128, 10, 1) = 1111111222; grew(1, 2, 4, 1) = 1222; grew(1, 1, 4, 1) = 2222
             """);
         doc.says("the first: the least and the greatest number there is", """
-            air(0, 204); air(1, 204); grew(255, 255, 10, 1) = 1111111111; air(0, 0); air(1, 30)
-            grew(1, 130, 10, 1) = 2222222222
+            air(0, 204); air(1, 204); grew(255, 255, 10, 1) = 1111111111; air(0, 0)
+            air(1, 30); grew(1, 130, 10, 1) = 2222222222
             grew(1, 130, 10, 0) = 1; grew(1, 251, 9, 1) = 222222222
             """);
         doc.says("the first (0 of no AIRS)", "grew(7, 7, 0, 1) = 0; grew(0, 0, 0, 1) = 0; grew(255, 255, 0, 1) = 0");
@@ -183,8 +183,8 @@ public final class Promises15To18Test {
     private static void patch() {
         doc.promise(18);
         doc.says("PLACES where nobody stands: the most that are side by side; the first of them", """
-            patch(0..1) = 10 6; stand(5, 9); patch(0..1) = 6 10; stand(5, 11); patch(0..1) = 6 5; stand(5, 15)
-            patch(0..1) = 10 5
+            patch(0..1) = 10 6; stand(5, 9); patch(0..1) = 6 10; stand(5, 11); patch(0..1) = 6 5
+            stand(5, 15); patch(0..1) = 10 5
             """);
         doc.says("the widest there can be", """
             stand(0..5, 0); patch(0..1) = 15 1; stand(0..5, 15); patch(0..1) = 15 0; stand(0..5, 8); patch(0..1) = 8 0
@@ -198,16 +198,16 @@ public final class Promises15To18Test {
             flake(6, 1, 8, 0, 0); patch(0..1) = 1 10; flake(7, 1, 10, 0, 0); patch(0..1) = 1 12
             """);
         doc.says("the first of them (the least)", """
-            stand(0..5, 8); stand(0, 15); stand(1, 4); flake(0, 1, 11, 0, 0); patch(0..1) = 4 0; stand(1, 3)
-            patch(0..1) = 4 4
+            stand(0..5, 8); stand(0, 15); stand(1, 4); flake(0, 1, 11, 0, 0); patch(0..1) = 4 0
+            stand(1, 3); patch(0..1) = 4 4
             """);
         doc.says("the last PLACES count", """
             stand(0..5, 0); stand(1, 12); flake(0, 1, 6, 0, 0); patch(0..1) = 5 1; flake(1, 1, 3, 0, 0)
             flake(2, 1, 9, 0, 0); patch(0..1) = 3 13
             """);
         doc.says("no FLAKE lies (with nobody, DOWN)", """
-            flake(0, 1, 10, 0, 0); patch(0..1) = 5 11; flake(1, 1, 11, 0, 0); patch(0..1) = 4 6; flake(2, 1, 7, 0, 0)
-            patch(0..1) = 4 12
+            flake(0, 1, 10, 0, 0); patch(0..1) = 5 11; flake(1, 1, 11, 0, 0); patch(0..1) = 4 6
+            flake(2, 1, 7, 0, 0); patch(0..1) = 4 12
             """);
         doc.says("one that came DOWN with nobody lies", """
             flake(0, 1, 10, 1, 0); patch(0..1) = 10 6; say '.'; patch(0..1) = 10 6; done(); patch(0..1) = 5 11

@@ -111,8 +111,8 @@ public final class Promises19To28Test {
         doc.says("nothing is left to learn: the least ARM there is", "seen(46, 77); look(0..1) = 0 1");
         doc.says("NONE: no LAW fits", "seen(0, 0); seen(0, 255); look(0..1) = NONE", "seen(0, 1); look(0..1) = NONE");
         doc.says("OUTSIDE", """
-            look(-1) = OUTSIDE; look(2) = OUTSIDE; look(LEAST) = OUTSIDE; look(MOST) = OUTSIDE; seen(0, 1)
-            look(2) = OUTSIDE; look(-1) = OUTSIDE
+            look(-1) = OUTSIDE; look(2) = OUTSIDE; look(LEAST) = OUTSIDE; look(MOST) = OUTSIDE
+            seen(0, 1); look(2) = OUTSIDE; look(-1) = OUTSIDE
             """);
         doc.says("it only tells", "seen(24, 60); keep; look(0..1); laws(-1..8); same");
     }
@@ -242,15 +242,15 @@ public final class Promises19To28Test {
             year(6, 1, 0..2) = 1 1 0; year(9999, 99, 0..2) = 1 1 0
             """);
         doc.says("from all as it is: UMBRELLAS, PLACES", """
-            flake(0, 1, 0, 1, 0); year(6, 1, 0) = 1; say 'Au'; done(); year(6, 1, 0) = 0; stand(0, 1)
-            year(6, 1, 0) = 0; stand(0, 0); year(6, 1, 0) = 1
+            flake(0, 1, 0, 1, 0); year(6, 1, 0) = 1; say 'Au'; done(); year(6, 1, 0) = 0
+            stand(0, 1); year(6, 1, 0) = 0; stand(0, 0); year(6, 1, 0) = 1
             """);
         doc.says("nothing is DONE in fact", TermsTest.FULL_DAY + """
             say 'cF>'; keep; year(6, 99, 0); year(0, 99, 1); year(3, 99, 2); same
             """);
         doc.says("the PAD is no matter", """
-            flake(0, 1, 0, 1, 0); say '<?'; year(6, 1, 0..2) = 1 0 0; pad 'A<'; year(6, 1, 0) = 1; pad '<'
-            year(6, 1, 0) = 1; told(0) = 1; judge(0) = NONE
+            flake(0, 1, 0, 1, 0); say '<?'; year(6, 1, 0..2) = 1 0 0; pad 'A<'; year(6, 1, 0) = 1
+            pad '<'; year(6, 1, 0) = 1; told(0) = 1; judge(0) = NONE
             """);
         doc.says("a YEAR again is the same", """
             flake(0, 1, 0, 1, 0); year(6, 1, 0) = 1; year(6, 1, 0) = 1; year(0, 1, 1) = 1; year(6, 1, 0..2) = 1 0 0
@@ -377,8 +377,8 @@ public final class Promises19To28Test {
             """);
         doc.says("who has which, the RIVER, UMBRELLAS", """
             flake(0, 1, 1, 1, 1); flake(1, 1, 0, 2, 1); say '.<Bu'; done(); image(1); flake(0, 1, 1, 1, 1)
-            flake(1, 1, 1, 1, 1); stand(1, 1)
-            restore(1); told(14) = 1; told(5) = 2; told(111) = 1; posted(0) = 1; stands(1, 2) = 1
+            flake(1, 1, 1, 1, 1)
+            stand(1, 1); restore(1); told(14) = 1; told(5) = 2; told(111) = 1; posted(0) = 1; stands(1, 2) = 1
             """);
         doc.says("SIGHTS", """
             seen(24, 60); image(0); forget(); restore(0); told(4) = 1; laws(-1) = 8; seen(24, 60) = 2; restore(0)
@@ -410,8 +410,8 @@ public final class Promises19To28Test {
         doc.says("0 signs",
             "told(0) = 0; say 'Au?'; told(0) = 3; wipe(); told(0) = 0; say '" + "c".repeat(60) + "'; told(0) = 60");
         doc.says("1 FLAKES (bits)", """
-            told(1) = 0; flake(0, 1, 1, 1, 1); told(1) = 1; flake(7, 1, 1, 0, 1); told(1) = 129; melt(0)
-            told(1) = 128; flake(0..7, 1, 1, 1, 1); told(1) = 255
+            told(1) = 0; flake(0, 1, 1, 1, 1); told(1) = 1; flake(7, 1, 1, 0, 1); told(1) = 129
+            melt(0); told(1) = 128; flake(0..7, 1, 1, 1, 1); told(1) = 255
             """);
         doc.says("2 COLD, 3 DAMP", """
             told(2..3) = 90 30; air(0, 0); air(1, 255); told(2..3) = 0 255; air(0, 255); air(1, 0); told(2..3) = 255 0
@@ -422,8 +422,8 @@ public final class Promises19To28Test {
             done(); told(5) = 1; say '>>'; done(); told(5) = 129
             """);
         doc.says("10 times (1 and a FLAKE that is there) and 0 ARM, 1 PLACE, 2 HEIGHT, 3 whom it is FOR, 4 with whom", """
-            flake(0, 24, 2, 3, 5); flake(7, 255, 15, 9, 0); flake(4, 7, 8, 0, 1)
-            told(10..14) = 24 2 3 5 NONE; told(80..84) = 255 15 9 0 NONE; told(50..54) = 7 8 0 1 NONE
+            flake(0, 24, 2, 3, 5); flake(7, 255, 15, 9, 0)
+            flake(4, 7, 8, 0, 1); told(10..14) = 24 2 3 5 NONE; told(80..84) = 255 15 9 0 NONE; told(50..54) = 7 8 0 1 NONE
             """);
         doc.says("1 PLACE (NONE), 2 HEIGHT in the RIVER", """
             flake(7, 9, 15, 9, 0); say '>'; told(81) = 15; done(); told(80..84) = 9 NONE 0 0 NONE

@@ -31,8 +31,8 @@ public final class Promises1To8Test {
             wipe() = 0; forget() = 0
             """);
         doc.says("a new object is its own", TermsTest.FULL_DAY + """
-            say 'cF'; image(0); image(1); keep
-            b.told(0) = 0; b.told(1) = 0; b.told(2) = 90; b.told(3) = 30; b.told(4) = 0; b.told(100) = 0; b.told(150) = 5
+            say 'cF'; image(0); image(1)
+            keep; b.told(0) = 0; b.told(1) = 0; b.told(2) = 90; b.told(3) = 30; b.told(4) = 0; b.told(100) = 0; b.told(150) = 5
             b.told(141) = 0; b.restore(0..1) = STATE; b.laws(-1) = 256; b.fault() = NONE; b.keep
             b.flake(0, 1, 1, 1, 1) = 1; b.stand(0, 9) = 0; b.air(0, 1) = 90; b.say('x') = 1; b.seen(1, 1) = 1; b.image(1) = 1
             same; c.keep; c.told(1) = 0; c.told(100) = 0; restore(1) = 1; same; b.told(1) = 1; b.told(0) = 1
@@ -112,8 +112,8 @@ public final class Promises1To8Test {
             flake(0, 0, 0, MOST, 0) = OUTSIDE; told(1) = 0
             """);
         doc.says("refused anew: it stays as it was", """
-            flake(0, 9, 8, 7, 5); keep
-            flake(0, 256, 1, 1, 1) = OUTSIDE; flake(0, 1, 16, 1, 1) = OUTSIDE; flake(0, 1, 1, 10, 1) = OUTSIDE
+            flake(0, 9, 8, 7, 5)
+            keep; flake(0, 256, 1, 1, 1) = OUTSIDE; flake(0, 1, 16, 1, 1) = OUTSIDE; flake(0, 1, 1, 10, 1) = OUTSIDE
             flake(0, 1, 1, 1, 6) = UNKNOWN; same
             """);
     }
@@ -131,8 +131,8 @@ public final class Promises1To8Test {
             melt(LEAST) = UNKNOWN; melt(MOST) = UNKNOWN; told(1) = 255
             """);
         doc.says("no more: it is not told", """
-            flake(0, 1, 2, 3, 4); flake(1, 5, 6, 7, 3); melt(0)
-            told(10..14) = OUTSIDE; behind(0, 0..3) = UNKNOWN; told(20..24) = 5 6 7 3 NONE
+            flake(0, 1, 2, 3, 4); flake(1, 5, 6, 7, 3)
+            melt(0); told(10..14) = OUTSIDE; behind(0, 0..3) = UNKNOWN; told(20..24) = 5 6 7 3 NONE
             """);
         doc.says("no more: it does not fall", """
             flake(0, 1, 2, 3, 2); melt(0); pad '.'; judge(1) = 2; most(0..1) = 0; year(9, 99, 2) = 0; pad ''; posted(2) = 0

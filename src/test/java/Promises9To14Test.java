@@ -77,13 +77,13 @@ public final class Promises9To14Test {
             judge(NONE) = OUTSIDE
             """);
         doc.says("NO: there is a FAULT", """
-            say('A'); judge(0..2) = NO; say('c'); judge(0..2) = NO; pad 'cu'; judge(0..2) = NO; pad '?'
-            judge(0..2) = NO
+            say('A'); judge(0..2) = NO; say('c'); judge(0..2) = NO; pad 'cu'; judge(0..2) = NO
+            pad '?'; judge(0..2) = NO
             """);
         doc.says("NO: behind an ACT that can not be, too", "say 'A<A'; judge(0..2) = NO; pad 'A<c?'; judge(0..2) = NO");
         doc.says("STATE (2): some ACT can not be", """
-            say 'A<'; judge(0..2) = 0 1 STATE; flake(0, 1, 1, 1, 1); pad '.A<'; judge(0..2) = 1 1 STATE; pad '..'
-            judge(2) = STATE
+            say 'A<'; judge(0..2) = 0 1 STATE; flake(0, 1, 1, 1, 1); pad '.A<'; judge(0..2) = 1 1 STATE
+            pad '..'; judge(2) = STATE
             """);
     }
 
@@ -91,12 +91,12 @@ public final class Promises9To14Test {
         doc.promise(10);
         doc.says("of no ACTS: as it is", "flake(3, 24, 7, 2, 5); behind(3, 0..3) = 24 7 2 NONE");
         doc.says("ARM", """
-            flake(0, 24, 7, 2, 5); say 'c'; behind(0, 0) = 60; say('c'); behind(0, 0) = 102; pad 'd'
-            behind(0, 0) = 52
+            flake(0, 24, 7, 2, 5); say 'c'; behind(0, 0) = 60; say('c'); behind(0, 0) = 102
+            pad 'd'; behind(0, 0) = 52
             """);
         doc.says("PLACE", """
-            flake(0, 24, 7, 2, 5); say '<'; behind(0, 1) = 6; pad '>>'; behind(0, 1) = 9; say '..<'
-            behind(0, 1) = STATE
+            flake(0, 24, 7, 2, 5); say '<'; behind(0, 1) = 6; pad '>>'; behind(0, 1) = 9
+            say '..<'; behind(0, 1) = STATE
             """);
         doc.says("PLACE (NONE: the RIVER)", """
             flake(0, 24, 1, 2, 5); flake(1, 24, 14, 2, 5)
@@ -110,8 +110,8 @@ public final class Promises9To14Test {
             """);
         doc.says("with whom it is", "flake(0, 24, 3, 1, 5); say '.'; behind(0, 3) = 3; say 'D>D>Du'; behind(0, 3) = 3");
         doc.says("with whom it is (NONE): above, lying, in the RIVER", """
-            flake(0, 24, 3, 2, 3); flake(1, 24, 9, 1, 3); flake(2, 24, 0, 5, 3); flake(3, 24, 3, 0, 3)
-            behind(0..3, 3) = NONE; say '<>.'; behind(0..3, 3) = NONE; behind(0..3, 1) = 3 9 NONE 3
+            flake(0, 24, 3, 2, 3); flake(1, 24, 9, 1, 3); flake(2, 24, 0, 5, 3)
+            flake(3, 24, 3, 0, 3); behind(0..3, 3) = NONE; say '<>.'; behind(0..3, 3) = NONE; behind(0..3, 1) = 3 9 NONE 3
             """);
         doc.says("as it is now, whatever was asked ahead: FLAKES, ONES, AIRS, IMAGES", """
             flake(0, 24, 1, 1, 1); image(0); say 'c.'; behind(0, 0..3) = 60 1 0 1; judge(2) = 1; posted(0) = 1
@@ -134,8 +134,8 @@ public final class Promises9To14Test {
             behind(0, MOST) = OUTSIDE
             """);
         doc.says("NO, as of judge(2)", """
-            flake(0, 1, 1, 1, 1); pad 'A'; behind(0, 0..3) = NO; pad 'u'; behind(0, 0..3) = NO; pad 'cx'
-            behind(0, 0) = NO
+            flake(0, 1, 1, 1, 1); pad 'A'; behind(0, 0..3) = NO; pad 'u'; behind(0, 0..3) = NO
+            pad 'cx'; behind(0, 0) = NO
             """);
         doc.says("STATE, as of judge(2)", """
             flake(0, 1, 1, 1, 1); pad 'A<'; behind(0, 0..3) = STATE; pad '..'; behind(0, 0..3) = STATE
@@ -178,8 +178,8 @@ public final class Promises9To14Test {
         doc.promise(12);
         doc.says("of no FLAKES", "posted(0..2) = 0 NONE 0; say 'Au'; posted(0..2) = 0 NONE 0");
         doc.says("FLAKES that are with whom they are FOR (bits)", """
-            flake(0, 1, 0, 1, 0); flake(1, 1, 1, 1, 0); flake(5, 1, 5, 1, 5); flake(7, 1, 2, 2, 2); flake(6, 1, 9, 1, 0)
-            posted(0) = 0; say '.'; posted(0) = 33; say('.'); posted(0) = 161
+            flake(0, 1, 0, 1, 0); flake(1, 1, 1, 1, 0); flake(5, 1, 5, 1, 5); flake(7, 1, 2, 2, 2)
+            flake(6, 1, 9, 1, 0); posted(0) = 0; say '.'; posted(0) = 33; say('.'); posted(0) = 161
             """);
         doc.says("all eight of them", "flake(0..7, 1, 3, 1, 3); say '.'; posted(0..2) = 255 0 0");
         doc.says("those from before are so, too", """
@@ -197,8 +197,8 @@ public final class Promises9To14Test {
         doc.says("the first ACT, the last one of a full PAD",
             "flake(0, 1, 0, 1, 0); say '" + "c".repeat(59) + ".'; posted(1) = 59");
         doc.says("the first ACT (NONE)", """
-            flake(0, 1, 0, 1, 0); posted(1) = NONE; say 'c'; posted(1) = NONE; pad 'Au.'; posted(1) = NONE; pad '<'
-            posted(1) = NONE
+            flake(0, 1, 0, 1, 0); posted(1) = NONE; say 'c'; posted(1) = NONE; pad 'Au.'; posted(1) = NONE
+            pad '<'; posted(1) = NONE
             """);
         doc.says("the first ACT (NONE): they came so before", """
             flake(0, 1, 0, 1, 0); say '.'; done(); posted(0..1) = 1 NONE; say 'A>'; posted(0..1) = 1 NONE

@@ -56,8 +56,8 @@ public final class TermsTest {
             posted(3) = OUTSIDE
             """);
         doc.says("the first of these that fits: OUTSIDE ahead of STATE", """
-            flake(0, 1, 1, 1, 1); say 'A<'
-            judge(3) = OUTSIDE
+            flake(0, 1, 1, 1, 1)
+            say 'A<'; judge(3) = OUTSIDE
             behind(0, 4) = OUTSIDE
             stands(0, 3) = OUTSIDE
             posted(3) = OUTSIDE
@@ -65,8 +65,8 @@ public final class TermsTest {
             restore(-1) = OUTSIDE
             """);
         doc.says("the first of these that fits: NO ahead of STATE", """
-            flake(0, 1, 1, 1, 1); say 'A<?'
-            judge(0..2) = NO
+            flake(0, 1, 1, 1, 1)
+            say 'A<?'; judge(0..2) = NO
             behind(0, 0..3) = NO
             stands(0, 0..2) = NO
             posted(0..2) = NO
@@ -107,25 +107,25 @@ public final class TermsTest {
             told(6) = OUTSIDE; told(50) = OUTSIDE; told(160) = OUTSIDE
             """);
         doc.says("they change nothing: NO", FULL_DAY + """
-            say 'c.F<A'; keep
-            judge(0..2) = NO; behind(0, 0) = NO; stands(5, 0) = NO; posted(0) = NO; done() = NO
+            say 'c.F<A'
+            keep; judge(0..2) = NO; behind(0, 0) = NO; stands(5, 0) = NO; posted(0) = NO; done() = NO
             same
             """);
         doc.says("they change nothing: STATE", FULL_DAY + """
-            say 'c.F>F>F>'; keep
-            judge(2) = STATE; behind(0, 0) = STATE; stands(5, 0) = STATE; posted(0) = STATE; done() = STATE
+            say 'c.F>F>F>'
+            keep; judge(2) = STATE; behind(0, 0) = STATE; stands(5, 0) = STATE; posted(0) = STATE; done() = STATE
             restore(0) = STATE; restore(1) = STATE
             same
             """);
         doc.says("they change nothing: FULL", FULL_DAY + """
             seen(24, 60); seen(24, 60); seen(24, 60); seen(24, 60); seen(24, 60); seen(24, 60); seen(24, 60) = 8
-            say 'AuAuAuAuAuAuAuAuAuAuAuAuAuAuAuAuAuAuAuAuAuAuAuAuAuAuAuAuAuAu'; keep
-            seen(0, 1) = FULL; say('?') = FULL; say('A') = FULL
+            say 'AuAuAuAuAuAuAuAuAuAuAuAuAuAuAuAuAuAuAuAuAuAuAuAuAuAuAuAuAuAu'
+            keep; seen(0, 1) = FULL; say('?') = FULL; say('A') = FULL
             same
             """);
         doc.says("they change nothing: what an IMAGE keeps", FULL_DAY + """
-            keep; image(0) = 1; melt(0); air(0, 1)
-            image(2) = OUTSIDE; image(-1) = OUTSIDE; restore(1) = STATE; restore(2) = OUTSIDE
+            keep; image(0) = 1; melt(0)
+            air(0, 1); image(2) = OUTSIDE; image(-1) = OUTSIDE; restore(1) = STATE; restore(2) = OUTSIDE
             restore(0) = 1; same
             """);
         doc.says("a sign that is said changes what fault() tells", """
