@@ -360,6 +360,10 @@ public final class TermsTest {
 
     private static void calls() {
         doc.terms(0);
+        doc.says("README.md's way of using it", """
+            flake(0, 24, 2, 1, 2) = 1; say('c') = 1; say('.') = 2; fault() = NONE; judge(0) = NONE; posted(0) = 1; done() = 2
+            told(14) = 2; told(24) = OUTSIDE; gusts(5, 2, 1, 1, 5, 0..1) = 33 50
+            """);
         doc.says("an object is used for at most 512 calls: the last one is as the first one",
             "say(99) = 1; wipe() = 1;".repeat(256),
             "flake(0, 1, 1, 1, 1) = 1; melt(0) = 0;".repeat(256), "seen(1, 2) = 1; forget() = 1;".repeat(256),

@@ -1,18 +1,24 @@
 import java.io.IOException;
+import java.lang.reflect.Array;
 import java.lang.reflect.Constructor;
 import java.lang.reflect.Field;
 import java.lang.reflect.Method;
 import java.lang.reflect.Modifier;
 import java.nio.file.Files;
 import java.nio.file.Path;
+import java.util.ArrayDeque;
+import java.util.ArrayList;
 import java.util.Arrays;
+import java.util.Collections;
+import java.util.IdentityHashMap;
 import java.util.List;
+import java.util.Set;
 import java.util.TreeSet;
-import java.util.regex.Matcher;
-import java.util.regex.Pattern;
 
-/** The class's face, and those rules of LANGUAGE.md that can be seen from the text or by reflection. */
-public final class LanguageTest {
+/** The class's face, what its classes hold, and the room that an object takes; RulesTest looks at the rest of LANGUAGE.md. */
+public final class FaceTest {
+    /** The room of one run is 600,000 objects and arrays, 7.3 million fields and elements: a thousand of these fit. */
+    private static final int MOST_OBJECTS = 600, MOST_PARTS = 7300;
     private static final Due due = new Due();
     private static final String[] METHODS = {"int flake(int,int,int,int,int)", "int melt(int)", "int stand(int,int)",
         "int air(int,int)", "int say(int)", "int wipe()", "int fault()", "int judge(int)", "int behind(int,int)",
@@ -22,13 +28,13 @@ public final class LanguageTest {
         "int image(int)", "int restore(int)", "int told(int)"};
     private static final String[] FIELDS = {"int UNKNOWN = -1", "int OUTSIDE = -2", "int STATE = -3", "int FULL = -4",
         "int NO = -5", "int NONE = -6", "long GONE = -1000000000000000000"};
-    private static final String[] BANNED = {"throw", "throws", "try", "catch", "finally", "synchronized", "assert", "package",
-        "::", "Exact", "Object", "hashCode", "System.out", "Thread", "Random", "nanoTime", "currentTimeMillis"};
 
     public static void main(String[] args) throws IOException, IllegalAccessException {
         face();
         inside();
-        text(Files.readString(Path.of("src/main/java/FlakePost.java")));
+        room(new FlakePost());
+        String source = Files.readString(Path.of("src/main/java/FlakePost.java"));
+        due.holds("signs are 1 to 127", source.chars().allMatch(sign -> sign > 0 && sign < 128));
         due.end();
     }
 
@@ -65,13 +71,12 @@ public final class LanguageTest {
             for (Method method : type.getDeclaredMethods()) {
                 due.holds("no private method bears a public one's name: " + method,
                     !Modifier.isPrivate(method.getModifiers()) || !names.contains(method.getName()));
-                due.holds("at most seven parameters: " + method, method.getParameterCount() <= 7);
             }
         }
     }
 
     private static List<Class<?>> withThoseInside() {
-        List<Class<?>> all = new java.util.ArrayList<>(List.of(FlakePost.class.getDeclaredClasses()));
+        List<Class<?>> all = new ArrayList<>(List.of(FlakePost.class.getDeclaredClasses()));
         all.add(FlakePost.class);
         return all;
     }
@@ -92,25 +97,43 @@ public final class LanguageTest {
         }
     }
 
-    private static void text(String source) {
-        String code = source.replaceAll("(?s)/\\*.*?\\*/", "").replaceAll("//[^\n]*", "");
-        for (String word : BANNED) {
-            String edge = word.matches("\\w.*") ? "\\b" : "";
-            Matcher found = Pattern.compile(edge + Pattern.quote(word) + (word.equals("Exact") ? "" : edge)).matcher(code);
-            due.holds("no '" + word + "'", !found.find());
+    /** All that an object holds is made with it, so this is what it takes for all its calls. */
+    private static void room(FlakePost post) throws IllegalAccessException {
+        Set<Object> objects = Collections.newSetFromMap(new IdentityHashMap<>());
+        ArrayDeque<Object> next = new ArrayDeque<>(List.of(post));
+        int parts = 0;
+        while (!next.isEmpty()) {
+            Object object = next.poll();
+            if (objects.add(object)) {
+                List<Object> held = object.getClass().isArray() ? elements(object) : fields(object);
+                parts += held.size();
+                held.stream().filter(part -> part != null && (part.getClass().isArray() || isOwn(part))).forEach(next::add);
+            }
         }
-        due.holds("signs are 1 to 127", source.chars().allMatch(sign -> sign > 0 && sign < 128));
-        Matcher imports = Pattern.compile("import ([\\w.*]+);").matcher(code);
-        while (imports.find()) {
-            due.holds("import of " + imports.group(1), imports.group(1).equals("java.util.Arrays"));
+        due.holds("objects and arrays: " + objects.size(), objects.size() <= MOST_OBJECTS);
+        due.holds("fields and elements: " + parts, parts <= MOST_PARTS);
+    }
+
+    private static boolean isOwn(Object object) {
+        return object.getClass().getName().startsWith("FlakePost");
+    }
+
+    private static List<Object> elements(Object array) {
+        List<Object> all = new ArrayList<>();
+        for (int i = 0; i < Array.getLength(array); i++) {
+            all.add(Array.get(array, i));
         }
-        for (String line : code.split("\n")) {
-            due.holds("no lambda: " + line, !line.contains("->") || line.matches(" *(case [^>]*|default) *->.*"));
+        return all;
+    }
+
+    private static List<Object> fields(Object object) throws IllegalAccessException {
+        List<Object> all = new ArrayList<>();
+        for (Field field : object.getClass().getDeclaredFields()) {
+            if (!Modifier.isStatic(field.getModifiers())) {
+                field.setAccessible(true);
+                all.add(field.get(object));
+            }
         }
-        int lines = 0;
-        for (String line : code.split("\n")) {
-            lines = line.matches(" +(public|private).*\\) \\{") ? 0 : lines + 1;
-            due.holds("methods stay short: " + line, lines <= 60 || line.isBlank() || !line.startsWith("        "));
-        }
+        return all;
     }
 }
